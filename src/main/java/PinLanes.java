@@ -336,7 +336,15 @@ public final class PinLanes {
             }
         }
         if (hasGreen()) {
-            h = digestOfWhatWouldBe(h);
+            h = 31 * h + number();
+            h = 31 * h + wins();
+            for (int what = 0; what <= 3; what++) {
+                h = 31 * h + best(what);
+            }
+            h = 31 * h + row(20);
+            h = 31 * h + period(0);
+            h = 31 * h + period(1);
+            h = 31 * h + likely();
         }
         for (int place = 0; place < letters; place++) {
             h = 31 * h + page[place];
@@ -345,18 +353,6 @@ public final class PinLanes {
             h = 31 * h + count(what);
         }
         return h;
-    }
-
-    private long digestOfWhatWouldBe(long start) {
-        long h = 31 * start + number();
-        h = 31 * h + wins();
-        for (int what = 0; what <= 3; what++) {
-            h = 31 * h + best(what);
-        }
-        h = 31 * h + row(20);
-        h = 31 * h + period(0);
-        h = 31 * h + period(1);
-        return 31 * h + likely();
     }
 
     /** How many letters of the page, from its first on, a green can begin with. */
@@ -506,7 +502,7 @@ public final class PinLanes {
     }
 
     private static int bits(int first, int many) {
-        return (1 << many) - 1 << first;
+        return ((1 << many) - 1) << first;
     }
 
     /** Numbers as bits: a green has 27 strikes at most, and no row has a number above 16, so a long has room. */
@@ -688,12 +684,12 @@ public final class PinLanes {
             // What falls is always one run of pins, so only its two ends can take more along.
             int fallen = taken[i];
             int right = firsts[i] + counts[i] - 1;
-            while (right + 1 < MOST_PINS && (takesRight >> right & standing >> right + 1 & 1) == 1) {
+            while (right + 1 < MOST_PINS && (takesRight >> right & standing >> (right + 1) & 1) == 1) {
                 right++;
                 fallen |= 1 << right;
             }
             int left = firsts[i];
-            while (left > 0 && (takesLeft >> left & standing >> left - 1 & 1) == 1) {
+            while (left > 0 && (takesLeft >> left & standing >> (left - 1) & 1) == 1) {
                 left--;
                 fallen |= 1 << left;
             }
