@@ -406,6 +406,19 @@ public final class PinLanes {
         return other == PIN || kind == other || kind == DOUBLE && other == LEAN;
     }
 
+    private static int bits(int first, int many) {
+        return ((1 << many) - 1) << first;
+    }
+
+    /** Numbers as bits: a green has 27 strikes at most, and no row has a number above 16, so a long has room. */
+    private static int leastNotIn(long numbers) {
+        int number = 0;
+        while (number < 63 && (numbers >> number & 1) == 1) {
+            number++;
+        }
+        return number;
+    }
+
     /** All that an image keeps, and the lanes, which no call but green() makes others. */
     private static final class Green {
         int pins;
@@ -499,19 +512,6 @@ public final class PinLanes {
             boolean reaches = isAlso(kinds[pin], other > pin ? LEAN : DOUBLE);
             return reaches && kinds[other] != STOUT && kinds[other] != FIXED;
         }
-    }
-
-    private static int bits(int first, int many) {
-        return ((1 << many) - 1) << first;
-    }
-
-    /** Numbers as bits: a green has 27 strikes at most, and no row has a number above 16, so a long has room. */
-    private static int leastNotIn(long numbers) {
-        int number = 0;
-        while (number < 63 && (numbers >> number & 1) == 1) {
-            number++;
-        }
-        return number;
     }
 
     /** Reads a green letter by letter, as far as a green can have them. */
@@ -759,6 +759,7 @@ public final class PinLanes {
                 }
             }
             numbers[standing] = leastNotIn(numbersLeft);
+            // Without a strike the other one has struck last: who is next has won just where the law is 1.
             wins[standing] = there == 0 ? law : winning;
             fewest[standing] = there == 0 ? 0 : least;
             most[standing] = longest;
