@@ -651,6 +651,14 @@ public final class BoundsTest {
         due("pin(0, 4), plain", x.pin(0, 4), 1);
         due("see(0, 0, 3)", x.see(0, 0, 3), 3);
         due("pin(0, 4), none", x.pin(0, 4), 0);
+        x = green("pppppp,ppp;1w");
+        due("see(8, 0, 1), the last pin", x.see(8, 0, 1), 1);
+        due("see(4, 1, 0)", x.see(4, 1, 0), 2);
+        due("see(8, 1, 0)", x.see(8, 1, 0), 3);
+        int[] left = {31, 31, 31, 31, 12, 31, 31, 31, 4};
+        for (int pin = 0; pin < 9; pin++) {
+            due("pin(" + pin + ", 4)", x.pin(pin, 4), left[pin]);
+        }
     }
 
     private static void wayOfLikeOnesZero() {
@@ -800,12 +808,19 @@ public final class BoundsTest {
         due("restore(), seen", x.restore(), 1);
         due("digest(), seen", x.digest(), kept);
         for (int i = 2; i <= 6; i++) {
-            due("see(0, 1, 1)", x.see(0, 1, 1), i);
+            due("see(1, 1, 0)", x.see(1, 1, 0), i);
         }
         due("image(), seen is full", x.image(), 1);
         due("forget()", x.forget(), 6);
+        for (int i = 1; i <= 6; i++) {
+            due("see(0, 0, 2)", x.see(0, 0, 2), i);
+        }
         due("restore(), seen is full", x.restore(), 1);
-        due("see(0, 1, 1)", x.see(0, 1, 1), FULL);
+        due("see(1, 1, 0)", x.see(1, 1, 0), FULL);
+        int[] sorts = {31, 12, 16};
+        for (int pin = 0; pin < 3; pin++) {
+            due("pin(" + pin + ", 4), seen of which pin, and which way", x.pin(pin, 4), sorts[pin]);
+        }
     }
 
     private static void imageDoesNotKeepThePage() {
@@ -1041,6 +1056,12 @@ public final class BoundsTest {
         due("change(8, 5)", x.change(8, 5), OUTSIDE);
         due("change(8, 3)", x.change(8, 3), 4);
         due("falls(8, 1), fixed", x.falls(8, 1), STATE);
+        due("change(1, 4)", x.change(1, 4), 0);
+        due("falls(1, 1), double", x.falls(1, 1), 7);
+        due("change(1, 1)", x.change(1, 1), 4);
+        due("falls(1, 1), leaning", x.falls(1, 1), 6);
+        due("change(1, 0)", x.change(1, 0), 1);
+        due("falls(1, 1), plain", x.falls(1, 1), 2);
         due("change(9, 5), the first as told", x.change(9, 5), UNKNOWN);
         due("change(9, 0)", x.change(9, 0), UNKNOWN);
         due("change(-1, 0)", x.change(-1, 0), UNKNOWN);
@@ -1105,6 +1126,13 @@ public final class BoundsTest {
             2, 2, 1, 1, 1, 0, 1, 1, 0, 1,
         };
         due("digest(), no strike any more, NONE among the numbers", x.digest(), mixed(over));
+        due("ball(2), rows and periods that are not 0", x.ball(2), 1);
+        long[] other = over.clone();
+        other[28] = 1;
+        other[29] = 20;
+        other[30] = 20;
+        other[35] = 2;
+        due("digest(), by another ball", x.digest(), mixed(other));
     }
 
     // ---- how it is asked
