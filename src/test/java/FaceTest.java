@@ -5,6 +5,7 @@ import java.lang.reflect.Method;
 import java.lang.reflect.Modifier;
 import java.nio.file.Files;
 import java.nio.file.Path;
+import java.util.List;
 import java.util.Set;
 import java.util.TreeSet;
 import java.util.regex.Matcher;
@@ -38,7 +39,9 @@ public final class FaceTest {
         methods();
         constants();
         constructors();
+        limits();
         source(Files.readString(Path.of("src/main/java/PinLanes.java")));
+        lengths(Files.readAllLines(Path.of("src/main/java/PinLanes.java")));
         System.out.println("FaceTest: " + wrong + " wrong");
         if (wrong != 0) {
             System.exit(1);
@@ -99,6 +102,45 @@ public final class FaceTest {
         due("constructors", made.length, 1);
         due("the constructor", made[0].toString(), "public PinLanes()");
         due("the class", Modifier.toString(PinLanes.class.getModifiers()), "public final");
+    }
+
+    /** What LANGUAGE.md's eleventh rule counts. */
+    private static void limits() {
+        due("at most twelve classes", PinLanes.class.getDeclaredClasses().length + 1 <= 12, true);
+        limitsOf(PinLanes.class);
+        for (Class<?> inside : PinLanes.class.getDeclaredClasses()) {
+            limitsOf(inside);
+        }
+    }
+
+    private static void limitsOf(Class<?> one) {
+        int fields = 0;
+        for (Field field : one.getDeclaredFields()) {
+            boolean isStatic = Modifier.isStatic(field.getModifiers());
+            due(field + " final, if it is static", !isStatic || Modifier.isFinal(field.getModifiers()), true);
+            fields += isStatic ? 0 : 1;
+        }
+        due(one + " at most twenty fields", fields <= 20, true);
+        for (Method method : one.getDeclaredMethods()) {
+            due(method + " at most seven parameters", method.getParameterCount() <= 7, true);
+        }
+    }
+
+    /** A method begins and ends at four blanks, or at eight inside a class. */
+    private static void lengths(List<String> lines) {
+        int methods = 0;
+        for (int first = 0; first < lines.size(); first++) {
+            Matcher head = Pattern.compile("( {4}| {8})[a-zA-Z].*\\) \\{").matcher(lines.get(first));
+            if (head.matches() && !lines.get(first).matches(" +(if|for|while|switch) .*")) {
+                int last = first;
+                while (last < lines.size() && !lines.get(last).equals(head.group(1) + "}")) {
+                    last++;
+                }
+                methods++;
+                due(lines.get(first).trim() + " at most sixty lines", last - first + 1 <= 60, true);
+            }
+        }
+        due("methods were found", methods > FACE.length, true);
     }
 
     private static void source(String text) {
